@@ -434,7 +434,6 @@ public final class ThreeRiddles {
         /** False: there is a FAULT, and what the court holds then is worth nothing. */
         boolean tells(Court court) {
             place = 0;
-            fault = 0;
             court.clear();
             if (!tellsLaw(court) || !tellsThings(court) || !tellsRiddles(court) || !tellsSuitors(court)) {
                 return false;
@@ -615,14 +614,13 @@ public final class ThreeRiddles {
         }
 
         static int least(int set) {
-            return set == 0 ? NONE : Integer.numberOfTrailingZeros(set);
+            int lowest = set & -set;
+            return set == 0 ? NONE : Integer.bitCount(lowest - 1);
         }
 
-        /** A COURT with nobody in it. */
+        /** Nothing is told yet; SHE and PRICE need no clearing, as each text begins with them. */
         void clear() {
             stands = true;
-            she = 0;
-            price = 0;
             things = 0;
             riddles = 0;
             suitors = 0;
@@ -757,13 +755,15 @@ public final class ThreeRiddles {
         }
     }
 
-    /** ACTS that can be undone: what stood ahead of each, of the one SUITOR that it changes. */
+    /**
+     * ACTS that can be undone: what stood ahead of each, of the one SUITOR that it changes. That he
+     * was to COME need not be kept: nobody else acts.
+     */
     private static final class Acts {
         private static final int MOST = 24;
 
         private final int[] suitor = new int[MOST];
         private final int[] knows = new int[MOST];
-        private final int[] fate = new int[MOST];
         private final int[] right = new int[MOST];
         private final int[] turned = new int[MOST];
         private final int[] used = new int[MOST];
@@ -779,7 +779,6 @@ public final class ThreeRiddles {
         void keep(Court court, int who) {
             suitor[next] = who;
             knows[next] = court.knows[who];
-            fate[next] = court.fate[who];
             right[next] = court.right[who];
             turned[next] = court.turned[who];
             used[next] = court.used;
@@ -793,7 +792,7 @@ public final class ThreeRiddles {
             held--;
             int who = suitor[next];
             court.knows[who] = knows[next];
-            court.fate[who] = fate[next];
+            court.fate[who] = Court.COMING;
             court.right[who] = right[next];
             court.turned[who] = turned[next];
             court.used = used[next];

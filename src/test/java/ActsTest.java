@@ -253,6 +253,14 @@ public final class ActsTest {
         due.is("none yet", x.undo(), Due.STATE);
         due.is("and again", x.buy(3, 0), 14);
         due.is("one act", x.count(8), 1);
+        x.inTurn(0, 2);
+        x.asked(0, 1);
+        x.asked(0, 0);
+        due.is("his latest", x.undo(), 3);
+        due.is("right once still", x.suitor(0, 2), 1);
+        due.is("the one ahead", x.undo(), 2);
+        due.is("he asked in turn still", x.suitor(0, 3), 1);
+        due.is("that was used still", x.count(4), 4);
     }
 
     /** Four SUITORS buy eight THINGS each, of which the ACTS behind the 24th push the first ones out. */

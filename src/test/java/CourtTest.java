@@ -174,7 +174,9 @@ public final class CourtTest {
         x.buy(3, 0);
         x.inTurn(3, 1);
         x.asked(1, 2);
+        x.asked(0, 0);
         due.is("one is dead", x.count(5), 1);
+        due.is("one was right", x.suitor(0, 2), 1);
         due.is("read again", Due.read(x, Due.COURT), 4);
         due.is("none was used", x.count(4), 0);
         due.is("none is dead", x.count(5), 0);
@@ -182,6 +184,7 @@ public final class CourtTest {
         due.is("no act", x.count(8), 0);
         due.is("undo", x.undo(), Due.STATE);
         due.is("he comes", x.suitor(1, 1), 0);
+        due.is("he was never right", x.suitor(0, 2), 0);
         due.is("he asked none", x.suitor(3, 3), 0);
         due.is("he knows nothing", x.suitor(3, 0), 0);
         due.is("rows stay", x.count(0), 1);

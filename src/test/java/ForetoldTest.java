@@ -64,6 +64,14 @@ public final class ForetoldTest {
         ThreeRiddles known = Due.told("k0,0;t1;t2;w3;");
         due.is("the first fair one", known.hard(1, 0), 1);
         due.is("all know", known.hard(1, 1), 0);
+        ThreeRiddles one = Due.told("k0,0;t0;w0;");
+        due.is("the first of all, for one", one.riddleFor(0, 1, 0), 0);
+        due.is("all but those that want a trait", one.riddleFor(0, 1, 1), 32);
+        due.is("the first of all, hard", one.hard(1, 0), 0);
+        due.is("for the first one", one.hard(1, 1), 1);
+        ThreeRiddles last = Due.told("k0,0;t31;t30;w2;w2;w1;");
+        due.is("hard for two", last.hard(1, 0), 32);
+        due.is("two", last.hard(1, 1), 2);
     }
 
     private static void chances() {
@@ -155,6 +163,9 @@ public final class ForetoldTest {
         tree(alike, 5, Due.NONE, Due.NONE);
         tree(alike, 6, 1, 0);
         tree(alike, 4, 0, Due.NONE);
+        tree(Due.told("k0,0;t31;t31;t0;"), 7, Due.NONE, Due.NONE);
+        tree(Due.told("k0,0;t0;t1;"), 3, 1, 0);
+        tree(Due.told("k0,0;t0;t16;"), 3, 1, 4);
         ThreeRiddles lonely = Due.told("k0,0;t1;t2;t4;t8;t16;t0;");
         tree(lonely, 63, 5, 0);
         tree(lonely, 62, 4, 1);
