@@ -67,6 +67,7 @@ public final class ForetoldTest {
         ThreeRiddles one = Due.told("k0,0;t0;w0;");
         due.is("the first of all, for one", one.riddleFor(0, 1, 0), 0);
         due.is("all but those that want a trait", one.riddleFor(0, 1, 1), 32);
+        due.is("lying, all that want a trait", one.riddleFor(0, 4, 1), 243 - 32);
         due.is("the first of all, hard", one.hard(1, 0), 0);
         due.is("for the first one", one.hard(1, 1), 1);
         ThreeRiddles last = Due.told("k0,0;t31;t30;w2;w2;w1;");
@@ -166,6 +167,11 @@ public final class ForetoldTest {
         tree(Due.told("k0,0;t31;t31;t0;"), 7, Due.NONE, Due.NONE);
         tree(Due.told("k0,0;t0;t1;"), 3, 1, 0);
         tree(Due.told("k0,0;t0;t16;"), 3, 1, 4);
+        ThreeRiddles two = Due.told("k0,0;t3;t7;t3;");
+        tree(two, 3, 1, 2);
+        Due.read(two, "k0,0;t16;t8;t24;");
+        tree(two, 3, 1, 3);
+        tree(two, 7, 2, 3);
         ThreeRiddles lonely = Due.told("k0,0;t1;t2;t4;t8;t16;t0;");
         tree(lonely, 63, 5, 0);
         tree(lonely, 62, 4, 1);

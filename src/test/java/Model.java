@@ -71,11 +71,11 @@ final class Model {
         }
     }
 
-    static class Plain implements Riddle {
+    abstract static class Told implements Riddle {
         final int number, yes, no;
         final List<Integer> things, trace;
 
-        Plain(int number, int yes, int no, List<Integer> things, List<Integer> trace) {
+        Told(int number, int yes, int no, List<Integer> things, List<Integer> trace) {
             this.number = number;
             this.yes = yes;
             this.no = no;
@@ -102,6 +102,12 @@ final class Model {
         public List<Integer> trace() {
             return trace;
         }
+    }
+
+    static class Plain extends Told {
+        Plain(int number, int yes, int no, List<Integer> things, List<Integer> trace) {
+            super(number, yes, no, things, trace);
+        }
 
         public boolean fits(int traits) {
             return fitsPlain(traits);
@@ -109,12 +115,12 @@ final class Model {
 
         public int size() {
             trace.add(11);
-            return Riddle.super.size() + mark();
+            return super.size() + mark();
         }
 
         public int mark() {
             trace.add(21);
-            return Riddle.super.mark() + yes;
+            return super.mark() + yes;
         }
     }
 
@@ -162,36 +168,9 @@ final class Model {
         }
     }
 
-    static class Lying implements Riddle {
-        final int number, yes, no;
-        final List<Integer> things, trace;
-
+    static class Lying extends Told {
         Lying(int number, int yes, int no, List<Integer> things, List<Integer> trace) {
-            this.number = number;
-            this.yes = yes;
-            this.no = no;
-            this.things = things;
-            this.trace = trace;
-        }
-
-        public int number() {
-            return number;
-        }
-
-        public int yes() {
-            return yes;
-        }
-
-        public int no() {
-            return no;
-        }
-
-        public List<Integer> things() {
-            return things;
-        }
-
-        public List<Integer> trace() {
-            return trace;
+            super(number, yes, no, things, trace);
         }
 
         public boolean fits(int traits) {
@@ -200,12 +179,12 @@ final class Model {
 
         public int size() {
             trace.add(13);
-            return Riddle.super.size() - 100;
+            return super.size() - 100;
         }
 
         public int mark() {
             trace.add(23);
-            return Riddle.super.mark() - size();
+            return super.mark() - size();
         }
     }
 
