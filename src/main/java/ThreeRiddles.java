@@ -455,30 +455,24 @@ public final class ThreeRiddles {
         }
 
         private boolean tellsThings(Court court) {
-            while (next() == 't') {
-                if (court.things >= Court.MOST_THINGS) {
-                    return faulty(NO_ROOM);
-                }
+            while (next() == 't' && court.things < Court.MOST_THINGS) {
                 if (!takes('t') || !takesNumber(Court.ALL_TRAITS, 0) || !takes(';')) {
                     return false;
                 }
                 court.traits[court.things] = number;
                 court.things++;
             }
-            return true;
+            return next() != 't' || faulty(NO_ROOM);
         }
 
         private boolean tellsRiddles(Court court) {
-            while (Court.sortOf(next()) != Court.RIDDLE) {
-                if (court.riddles >= Court.MOST_RIDDLES) {
-                    return faulty(NO_ROOM);
-                }
+            while (Court.sortOf(next()) != Court.RIDDLE && court.riddles < Court.MOST_RIDDLES) {
                 if (!tellsRiddle(court, court.riddles)) {
                     return false;
                 }
                 court.riddles++;
             }
-            return true;
+            return Court.sortOf(next()) == Court.RIDDLE || faulty(NO_ROOM);
         }
 
         private boolean tellsRiddle(Court court, int riddle) {
@@ -497,17 +491,14 @@ public final class ThreeRiddles {
         }
 
         private boolean tellsSuitors(Court court) {
-            while (next() == 'w') {
-                if (court.suitors >= Court.MOST_SUITORS) {
-                    return faulty(NO_ROOM);
-                }
+            while (next() == 'w' && court.suitors < Court.MOST_SUITORS) {
                 if (!takes('w') || !takesNumber(court.allThings(), 0) || !takes(';')) {
                     return false;
                 }
                 court.knows[court.suitors] = number;
                 court.suitors++;
             }
-            return true;
+            return next() != 'w' || faulty(NO_ROOM);
         }
 
         private int next() {
