@@ -34,6 +34,7 @@ final class EdgeActs {
         buyAnswers();
         buyIsRefused();
         undoAnswers();
+        undoBringsAllBack();
         riddleTells();
         suitorTells();
         saysTells();
@@ -575,6 +576,47 @@ final class EdgeActs {
         x.asked(0, 1);
         Due.read(x, "k");
         edges.is("behind a court not read", x.undo(), 0);
+    }
+
+    /** Behind each ACT, and again when the one behind it is undone: KNOWS, fate, RIGHT, IN TURN; USED, DEAD, PAID. */
+    private void undoBringsAllBack() {
+        edges.of("Promise 12", "The latest ACT is undone");
+        ThreeRiddles x = Due.told(COURT);
+        int[][] seen = new int[7][];
+        seen[0] = all(x);
+        x.inTurn(2, 1);
+        seen[1] = all(x);
+        x.asked(2, 0);
+        seen[2] = all(x);
+        x.asked(1, 5);
+        seen[3] = all(x);
+        x.buy(2, 2);
+        seen[4] = all(x);
+        x.asked(2, 2);
+        seen[5] = all(x);
+        x.asked(2, 3);
+        seen[6] = all(x);
+        edges.is("he is wed", seen[6][9], 2);
+        for (int left = 5; left >= 0; left--) {
+            edges.is("undo", x.undo(), left);
+            int[] now = all(x);
+            for (int k = 0; k < now.length; k++) {
+                edges.is("with " + left + " left, " + k, now[k], seen[left][k]);
+            }
+        }
+    }
+
+    private static int[] all(ThreeRiddles x) {
+        int[] seen = new int[19];
+        for (int suitor = 0; suitor < 4; suitor++) {
+            for (int what = 0; what < 4; what++) {
+                seen[4 * suitor + what] = x.suitor(suitor, what);
+            }
+        }
+        for (int what = 4; what < 7; what++) {
+            seen[12 + what] = x.count(what);
+        }
+        return seen;
     }
 
     private void riddleTells() {

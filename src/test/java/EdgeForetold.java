@@ -363,6 +363,11 @@ final class EdgeForetold {
         tree(Due.told("k0,0;t1;t2;t4;t8;t16;t0;"), 63, 5, 0);
         tree(Due.told("k0,0;t1;t2;t4;t8;t16;t0;"), 62, 4, 1);
         tree(Due.told("k0,0;t5;"), 1, 0, Due.NONE);
+        ThreeRiddles another = Due.told("k0,0;t3;t0;t1;t2;");
+        tree(another, 15, 2, 0);
+        Due.read(another, "k0,0;t0;t16;t8;t24;");
+        tree(another, 15, 2, 3);
+        tree(another, 3, 1, 4);
     }
 
     private void treesOfThingsAlike() {
